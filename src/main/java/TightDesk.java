@@ -543,7 +543,9 @@ public final class TightDesk {
         private final int[] from = new int[CONSTRAINTS + TASKS];
         private final int[] to = new int[CONSTRAINTS + TASKS];
         private final int[] gap = new int[CONSTRAINTS + TASKS];
-        /** For each count of edges and each place: the most that so many edges from it to the goal add. */
+        private int goal;
+        private int fewest;
+        /** For each count of edges and each place: what so many edges from it to the goal add at most. */
         private final int[][] most = new int[PLACES + 1][PLACES];
 
         Circle(Network network) {
@@ -570,25 +572,31 @@ public final class TightDesk {
          */
         void find() {
             gatherEdges();
-            int fewest = PLACES;
-            int goal = NONE;
+            size = 0;
+            goal = NONE;
+            // Most circles are short, and a low limit spares the long rows from all other places.
+            for (int limit = 2; goal == NONE && limit < 2 * PLACES; limit *= 2) {
+                findGoal(Math.min(limit, PLACES));
+            }
+            if (goal != NONE) {
+                measure(goal, fewest);
+                trace();
+            }
+        }
+
+        /** The place from which the circle begins, if it has no more edges than the limit. */
+        private void findGoal(int limit) {
             int firstEdge = edges;
+            fewest = limit;
             for (int i = 0; i <= network.tasks; i++) {
                 int place = i < network.tasks ? i : ORIGIN;
                 int steps = measure(place, fewest);
-                if (steps <= fewest) {
-                    int edge = leastEdge(place, steps - 1, 0);
-                    if (steps < fewest || edge < firstEdge) {
-                        fewest = steps;
-                        goal = place;
-                        firstEdge = edge;
-                    }
+                int edge = steps <= fewest ? leastEdge(place, steps - 1, 0) : NONE;
+                if (edge != NONE && (steps < fewest || edge < firstEdge)) {
+                    goal = place;
+                    fewest = steps;
+                    firstEdge = edge;
                 }
-            }
-            size = 0;
-            if (goal != NONE) {
-                measure(goal, fewest);
-                trace(goal, fewest);
             }
         }
 
@@ -612,13 +620,13 @@ public final class TightDesk {
             edges++;
         }
 
-        /** The fewest edges from the goal back to it that add up to more than 0; limit + 1 if above limit. */
-        private int measure(int goal, int limit) {
+        /** The fewest edges from a place back to it that add up to more than 0; limit + 1 if above limit. */
+        private int measure(int place, int limit) {
             Arrays.fill(most[0], NO_WAY);
-            most[0][goal] = 0;
+            most[0][place] = 0;
             for (int steps = 1; steps <= limit && steps <= PLACES; steps++) {
                 addStep(most[steps - 1], most[steps]);
-                if (most[steps][goal] > 0) {
+                if (most[steps][place] > 0) {
                     return steps;
                 }
             }
@@ -632,7 +640,7 @@ public final class TightDesk {
             }
         }
 
-        /** The first edge from a place behind which the goal is so many steps off, all above 0 together. */
+        /** The least edge from a place, with which and so many more the goal is reached above 0. */
         private int leastEdge(int place, int stepsLeft, int sum) {
             for (int e = 0; e < edges; e++) {
                 if (from[e] == place && sum + gap[e] + most[stepsLeft][to[e]] > 0) {
@@ -642,11 +650,11 @@ public final class TightDesk {
             return NONE;
         }
 
-        private void trace(int goal, int steps) {
+        private void trace() {
             int place = goal;
             int sum = 0;
-            for (int i = 0; i < steps; i++) {
-                int edge = leastEdge(place, steps - 1 - i, sum);
+            for (int i = 0; i < fewest; i++) {
+                int edge = leastEdge(place, fewest - 1 - i, sum);
                 if (edge == NONE) {
                     return;
                 }
