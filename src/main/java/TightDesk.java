@@ -434,7 +434,7 @@ public final class TightDesk {
             // More tasks run than just before only where one starts.
             for (int t = 0; t < tasks; t++) {
                 int running = Integer.bitCount(runningAt(earliest[t]));
-                if (running > most || running > 0 && running == most && earliest[t] < time) {
+                if (running > most || running == most && earliest[t] < time) {
                     most = running;
                     time = earliest[t];
                 }
@@ -464,7 +464,6 @@ public final class TightDesk {
         }
 
         void find() {
-            size = 0;
             measure();
             int next = firstTask();
             for (int i = 0; i < TASKS && next != NONE; i++) {
@@ -510,9 +509,6 @@ public final class TightDesk {
 
         private int nextTask(int task) {
             int next = NONE;
-            if (toEnd[task] <= 1) {
-                return next;
-            }
             for (int c = 0; c < network.constraints; c++) {
                 if (network.from[c] == task && isTight(c)) {
                     int end = network.to[c];
@@ -572,7 +568,6 @@ public final class TightDesk {
          */
         void find() {
             gatherEdges();
-            size = 0;
             goal = NONE;
             // Most circles are short, and a low limit spares the long rows from all other places.
             for (int limit = 2; goal == NONE && limit < 2 * PLACES; limit *= 2) {
@@ -726,7 +721,7 @@ public final class TightDesk {
             Arrays.fill(workerOfTask, NONE);
             Arrays.fill(taskOfWorker, NONE);
             int pairs = 0;
-            while (pairs <= WORKERS && widen(running, EVERY_WORKER)) {
+            while (pairs <= WORKERS && widen(EVERY_WORKER)) {
                 pairs++;
             }
             keepCover();
@@ -767,12 +762,12 @@ public final class TightDesk {
             coverWorkers = seen;
         }
 
-        /** Makes one pair more of these tasks and workers; no task loses its worker but for another. */
-        private boolean widen(int tasks, int workers) {
+        /** Makes one pair more if these workers may change; no task loses its worker but for another. */
+        private boolean widen(int workers) {
             queued = 0;
             seen = 0;
             for (int t = 0; t < TASKS; t++) {
-                if (holdsBit(tasks, t) && workerOfTask[t] == NONE) {
+                if (holdsBit(running, t) && workerOfTask[t] == NONE) {
                     enqueue(t);
                 }
             }
@@ -827,29 +822,30 @@ public final class TightDesk {
 
         /** Task by task, the least worker with whom there are still as many pairs. */
         private void takeLeastWorkers() {
-            int tasks = running;
             int workers = EVERY_WORKER;
             for (int t = 0; t < TASKS; t++) {
                 if (holdsBit(running, t)) {
-                    tasks &= ~(1 << t);
-                    int worker = takeLeast(t, tasks, workers);
-                    workers = worker == NONE ? workers : workers & ~(1 << worker);
+                    workers = takeLeast(t, workers);
                 }
             }
         }
 
-        private int takeLeast(int task, int otherTasks, int workers) {
+        /** The workers that are left for later tasks. */
+        private int takeLeast(int task, int workers) {
             for (int w = 0; w < WORKERS; w++) {
-                boolean able = holdsBit(skills[task] & workers, w);
-                if (able && take(task, w, otherTasks, workers & ~(1 << w))) {
-                    return w;
+                int others = workers & ~(1 << w);
+                if (holdsBit(skills[task] & workers, w) && take(task, w, others)) {
+                    return others;
                 }
             }
-            return NONE;
+            return workers;
         }
 
-        /** Pairs the two if the other tasks and workers can make up for it; else all is as before. */
-        private boolean take(int task, int worker, int otherTasks, int otherWorkers) {
+        /**
+         * Pairs the two if the other workers can make up for it; else all is as before. Earlier tasks
+         * stay as they are: those with a worker hold none of the others, the rest have no skill of these.
+         */
+        private boolean take(int task, int worker, int otherWorkers) {
             int oldWorker = workerOfTask[task];
             int oldTask = taskOfWorker[worker];
             if (oldWorker == worker) {
@@ -863,7 +859,7 @@ public final class TightDesk {
             }
             pair(task, worker);
             // One pair is lost, and must be made up for, only if both were in one.
-            if (oldWorker == NONE || oldTask == NONE || widen(otherTasks, otherWorkers)) {
+            if (oldWorker == NONE || oldTask == NONE || widen(otherWorkers)) {
                 return true;
             }
             pair(task, oldWorker);

@@ -41,6 +41,8 @@ public final class PromiseTest {
         test.promise17KeptMatch();
         test.promise18Count();
         test.promise18Stale();
+        test.fullDeskWithStarts();
+        test.fullDeskWithCircle();
         test.due.end();
     }
 
@@ -512,6 +514,9 @@ public final class PromiseTest {
         TightDesk pairs = crew(2, row(1), row(0, 1));
         due.is("more pairs ahead of less: assign(0)", pairs.assign(0), 2);
         dueWorkers("more pairs ahead of less", pairs, 1, 0);
+        TightDesk late = crew(4, row(1, 2), row(1, 3), row(0, 1), row(), row(0), row(0, 3));
+        due.is("a later one gives way: assign(0)", late.assign(0), 4);
+        dueWorkers("a later one gives way", late, 2, 1, 0, NONE, NONE, 3);
     }
 
     /** 30 tasks and 16 workers; of the tasks t and t + 1 can be done by worker t, but for the last ones. */
@@ -727,5 +732,68 @@ public final class PromiseTest {
         due.is("count(5), a stale circle", desk.count(5), 1);
         due.is("count(6), a stale circle", desk.count(6), 1);
         due.is("count(8), a stale circle", desk.count(8), 0);
+    }
+
+    /** As many of all as there may be, and the last of each matters. */
+    private static TightDesk fullDesk(int gap, int lastFrom, int lastTo, int lastGap) {
+        TightDesk desk = new TightDesk();
+        for (int t = 0; t < 30; t++) {
+            desk.task(1000);
+        }
+        for (int w = 0; w < 16; w++) {
+            desk.worker();
+        }
+        for (int t = 1; t < 29; t++) {
+            desk.constrain(t - 1, t, gap);
+        }
+        for (int c = 28; c < 119; c++) {
+            desk.constrain(c % 29, c % 29, -1);
+        }
+        desk.constrain(lastFrom, lastTo, lastGap);
+        return desk;
+    }
+
+    private void fullDeskWithStarts() {
+        TightDesk desk = fullDesk(1000, 28, 29, 1000);
+        int[] tasks = new int[30];
+        for (int t = 0; t < 30; t++) {
+            tasks[t] = t;
+            desk.skill(t, 15);
+        }
+        due.is("full: count(1)", desk.count(1), 120);
+        due.is("full: solve()", desk.solve(), 0);
+        due.is("full: length()", desk.length(), 30000);
+        dueRow("full", desk, 0, tasks);
+        due.is("full: start(29, 0)", desk.start(29, 0), 29000);
+        due.is("full: start(28, 3)", desk.start(28, 3), 0);
+        due.is("full: start(29, 1)", desk.start(29, 1), 29000);
+        due.is("full: delay(0, 1000)", desk.delay(0, 1000), 31000);
+        due.is("full: busy(29999)", desk.busy(29999), 1);
+        due.is("full: peak(0)", desk.peak(0), 0);
+        due.is("full: assign(29999)", desk.assign(29999), 1);
+        due.is("full: workerOf(29)", desk.workerOf(29), 15);
+        due.is("full: check(0)", desk.check(0), 1);
+        due.is("full: check(2)", desk.check(2), 1);
+        due.is("full: drop(119)", desk.drop(119), true);
+        due.is("full: check(0) after drop(119)", desk.check(0), 0);
+        due.is("full: check(2) after drop(119)", desk.check(2), 0);
+        desk.solve();
+        due.is("full: length() after drop(119)", desk.length(), 29000);
+        due.is("full: start(29, 2) after drop(119)", desk.start(29, 2), 28000);
+    }
+
+    private void fullDeskWithCircle() {
+        TightDesk desk = fullDesk(1, 28, 0, -27);
+        int[] numbers = new int[29];
+        for (int i = 0; i < 29; i++) {
+            numbers[i] = i < 28 ? i : 119;
+        }
+        due.is("full circle: solve()", desk.solve(), 1);
+        dueRow("full circle", desk, 1, numbers);
+        due.is("full circle: check(1)", desk.check(1), 1);
+        due.is("full circle: drop(119)", desk.drop(119), true);
+        due.is("full circle: check(1) after drop(119)", desk.check(1), 0);
+        due.is("full circle: solve() after drop(119)", desk.solve(), 0);
+        due.is("full circle: length() after drop(119)", desk.length(), 1028);
     }
 }
