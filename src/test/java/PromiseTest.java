@@ -19,6 +19,7 @@ public final class PromiseTest {
         test.promise8StartOfEach();
         test.promise8FreeAndLatest();
         test.promise8NoneAndStale();
+        test.promise8AnyOrder();
         test.promise9Length();
         test.promise10Chain();
         test.promise10ChainTies();
@@ -33,6 +34,7 @@ public final class PromiseTest {
         test.promise14Assign();
         test.promise14FirstMatch();
         test.promise14WholeCrew();
+        test.promise14AllShift();
         test.promise15WorkerOf();
         test.promise16Cover();
         test.promise17Times();
@@ -306,6 +308,34 @@ public final class PromiseTest {
         due.is("start(1, 0) with a circle", desk.start(1, 0), NONE);
     }
 
+    /** Constraints told in the order in which each matters only after all the others. */
+    private void promise8AnyOrder() {
+        TightDesk early = new TightDesk();
+        TightDesk late = new TightDesk();
+        for (int t = 0; t < 30; t++) {
+            early.task(0);
+            late.task(t < 29 ? 0 : 1000);
+        }
+        for (int t = 29; t > 0; t--) {
+            early.constrain(t - 1, t, 1);
+        }
+        early.constrain(-1, 0, 5);
+        for (int t = 1; t < 29; t++) {
+            late.constrain(t - 1, t, 1);
+        }
+        late.constrain(28, -1, -40);
+        due.is("early: solve()", early.solve(), 0);
+        due.is("late: solve()", late.solve(), 0);
+        for (int t = 0; t < 29; t++) {
+            due.is("early: start(" + t + ", 0)", early.start(t, 0), 5 + t);
+            due.is("late: start(" + t + ", 1)", late.start(t, 1), 12 + t);
+        }
+        due.is("early: length()", early.length(), 34);
+        due.is("early: delay(0, 7)", early.delay(0, 7), 41);
+        due.is("late: delay(0, 12)", late.delay(0, 12), 1000);
+        due.is("late: delay(0, 13)", late.delay(0, 13), -3);
+    }
+
     private void promise9Length() {
         TightDesk desk = new TightDesk();
         desk.solve();
@@ -533,6 +563,19 @@ public final class PromiseTest {
         }
         due.is("the whole crew: cover(1, 15)", desk.cover(1, 15), 1);
         due.is("the whole crew: count(9)", desk.count(9), 16);
+    }
+
+    /** The last task needs the worker of the first, who needs that of the second, and so on. */
+    private void promise14AllShift() {
+        int[][] skills = new int[16][];
+        for (int t = 0; t < 16; t++) {
+            skills[t] = t < 15 ? row(t, t + 1) : row(0);
+        }
+        TightDesk desk = crew(16, skills);
+        due.is("all shift: assign(0)", desk.assign(0), 16);
+        for (int t = 0; t < 16; t++) {
+            due.is("all shift: workerOf(" + t + ")", desk.workerOf(t), t < 15 ? t + 1 : 0);
+        }
     }
 
     private void promise15WorkerOf() {
