@@ -725,7 +725,10 @@ public final class TightDesk {
                 pairs++;
             }
             keepCover();
-            takeLeastWorkers();
+            int workers = EVERY_WORKER;
+            for (int t = 0; t < TASKS; t++) {
+                workers = holdsBit(running, t) ? takeLeast(t, workers) : workers;
+            }
             return pairs;
         }
 
@@ -820,17 +823,10 @@ public final class TightDesk {
             taskOfWorker[worker] = task;
         }
 
-        /** Task by task, the least worker with whom there are still as many pairs. */
-        private void takeLeastWorkers() {
-            int workers = EVERY_WORKER;
-            for (int t = 0; t < TASKS; t++) {
-                if (holdsBit(running, t)) {
-                    workers = takeLeast(t, workers);
-                }
-            }
-        }
-
-        /** The workers that are left for later tasks. */
+        /**
+         * Gives the task the least of these workers with whom there are still as many pairs; answers the
+         * workers that are left for later tasks.
+         */
         private int takeLeast(int task, int workers) {
             for (int w = 0; w < WORKERS; w++) {
                 int others = workers & ~(1 << w);

@@ -1,10 +1,5 @@
 /** Each promise of the document by its number: ordinary inputs, the edges, wrong inputs. */
-public final class PromiseTest {
-    private static final int NONE = TightDesk.NONE;
-    private static final int STALE = TightDesk.STALE;
-    private static final int LEAST = Integer.MIN_VALUE;
-    private static final int MOST = Integer.MAX_VALUE;
-
+public final class PromiseTest extends Desks {
     private final Due due = new Due("PromiseTest");
 
     public static void main(String[] args) {
@@ -46,73 +41,6 @@ public final class PromiseTest {
         test.fullDeskWithStarts();
         test.fullDeskWithCircle();
         test.due.end();
-    }
-
-    private static TightDesk desk(int... durations) {
-        TightDesk desk = new TightDesk();
-        for (int duration : durations) {
-            desk.task(duration);
-        }
-        return desk;
-    }
-
-    /** One row for each constraint: from, to, gap. */
-    private static TightDesk solved(int[] durations, int[]... constraints) {
-        TightDesk desk = desk(durations);
-        for (int[] c : constraints) {
-            desk.constrain(c[0], c[1], c[2]);
-        }
-        desk.solve();
-        return desk;
-    }
-
-    private static int[] row(int... numbers) {
-        return numbers;
-    }
-
-    /** Tasks of duration 5, all at 0; one row for each task: the workers with the skill for it. */
-    private static TightDesk crew(int workers, int[]... skills) {
-        TightDesk desk = new TightDesk();
-        for (int w = 0; w < workers; w++) {
-            desk.worker();
-        }
-        for (int t = 0; t < skills.length; t++) {
-            desk.task(5);
-            for (int w : skills[t]) {
-                desk.skill(t, w);
-            }
-        }
-        desk.solve();
-        return desk;
-    }
-
-    private void dueRow(String name, TightDesk desk, int what, int... numbers) {
-        for (int i = 0; i < numbers.length; i++) {
-            due.is(name + ": row(" + what + ", " + i + ")", desk.row(what, i), numbers[i]);
-        }
-        due.is(name + ": the row's end", desk.row(what, numbers.length), NONE);
-        due.is(name + ": ahead of the row", desk.row(what, -1), NONE);
-        due.is(name + ": how many", desk.count(7 + what), numbers.length);
-        due.is(name + ": of the other row", desk.count(8 - what), 0);
-        due.is(name + ": the other row", desk.row(1 - what, 0), NONE);
-    }
-
-    private void dueStarts(String name, TightDesk desk, int what, int... starts) {
-        for (int t = 0; t < starts.length; t++) {
-            due.is(name + ": start(" + t + ", " + what + ")", desk.start(t, what), starts[t]);
-        }
-    }
-
-    private void dueWorkers(String name, TightDesk desk, int... workers) {
-        for (int t = 0; t < workers.length; t++) {
-            due.is(name + ": workerOf(" + t + ")", desk.workerOf(t), workers[t]);
-        }
-    }
-
-    private void dueCover(String name, TightDesk desk, int side, int... in) {
-        for (int i = 0; i < in.length; i++) {
-            due.is(name + ": cover(" + side + ", " + i + ")", desk.cover(side, i), in[i]);
-        }
     }
 
     private void promise1NewObject() {
@@ -262,31 +190,31 @@ public final class PromiseTest {
 
     private void promise8StartOfEach() {
         TightDesk desk = solved(row(3, 2, 4, 0), row(0, 1, 3), row(1, 2, 2), row(0, 2, 1), row(3, 3, 0));
-        dueStarts("earliest", desk, 0, 0, 3, 5, 0);
-        dueStarts("latest", desk, 1, 0, 3, 5, 9);
-        dueStarts("slack", desk, 2, 0, 0, 0, 9);
-        dueStarts("free", desk, 3, 0, 0, 0, 9);
+        due.starts("earliest", desk, 0, 0, 3, 5, 0);
+        due.starts("latest", desk, 1, 0, 3, 5, 9);
+        due.starts("slack", desk, 2, 0, 0, 0, 9);
+        due.starts("free", desk, 3, 0, 0, 0, 9);
     }
 
     private void promise8FreeAndLatest() {
         // Task 1 may wait for task 2, task 0 for task 1; both lie within the long task 3.
         TightDesk desk = solved(row(1, 1, 1, 20), row(0, 1, 2), row(1, 2, 3), row(0, 2, 4));
-        dueStarts("earliest", desk, 0, 0, 2, 5, 0);
-        dueStarts("latest", desk, 1, 14, 16, 19, 0);
-        dueStarts("slack", desk, 2, 14, 14, 14, 0);
-        dueStarts("free", desk, 3, 0, 0, 14, 0);
+        due.starts("earliest", desk, 0, 0, 2, 5, 0);
+        due.starts("latest", desk, 1, 14, 16, 19, 0);
+        due.starts("slack", desk, 2, 14, 14, 14, 0);
+        due.starts("free", desk, 3, 0, 0, 14, 0);
         // A negative gap lets a task start ahead; one to the origin ends its slack.
         TightDesk early = solved(row(2, 2, 9), row(0, 1, -1), row(1, -1, -4), row(-1, 0, 1));
-        dueStarts("earliest", early, 0, 1, 0, 0);
-        dueStarts("latest", early, 1, 5, 4, 0);
-        dueStarts("free", early, 3, 0, 4, 0);
+        due.starts("earliest", early, 0, 1, 0, 0);
+        due.starts("latest", early, 1, 5, 4, 0);
+        due.starts("free", early, 3, 0, 4, 0);
         // A constraint from a task to itself leaves its free time as it is.
         TightDesk self = solved(row(1, 9), row(0, 0, -2));
-        dueStarts("free", self, 3, 8, 0);
+        due.starts("free", self, 3, 8, 0);
         TightDesk dropped = solved(row(1, 1, 9), row(0, 1, 1));
         dropped.drop(0);
         dropped.solve();
-        dueStarts("free without the dropped one", dropped, 3, 8, 8, 0);
+        due.starts("free without the dropped one", dropped, 3, 8, 8, 0);
     }
 
     private void promise8NoneAndStale() {
@@ -348,13 +276,13 @@ public final class PromiseTest {
     }
 
     private void promise10Chain() {
-        dueRow("one task", solved(row(3)), 0, 0);
-        dueRow("a longer one", solved(row(3, 5)), 0, 1);
-        dueRow("three in a row", solved(row(3, 2, 4), row(0, 1, 3), row(1, 2, 2)), 0, 0, 1, 2);
-        dueRow("with a negative gap", solved(row(1, 1, 6), row(0, 1, 5), row(1, 2, -2)), 0, 0, 1, 2);
-        dueRow("not by a dropped one", droppedShortCut(), 0, 0, 1, 2);
-        dueRow("not by one with time left", solved(row(1, 1, 4), row(0, 1, 3), row(1, 2, 3), row(0, 2, 5)), 0, 0, 1, 2);
-        dueRow("through a gap of 0", solved(row(1, 4, 0), row(0, 2, 0), row(2, 1, 3)), 0, 2, 1);
+        due.row("one task", solved(row(3)), 0, 0);
+        due.row("a longer one", solved(row(3, 5)), 0, 1);
+        due.row("three in a row", solved(row(3, 2, 4), row(0, 1, 3), row(1, 2, 2)), 0, 0, 1, 2);
+        due.row("with a negative gap", solved(row(1, 1, 6), row(0, 1, 5), row(1, 2, -2)), 0, 0, 1, 2);
+        due.row("not by a dropped one", droppedShortCut(), 0, 0, 1, 2);
+        due.row("not by one with time left", solved(row(1, 1, 4), row(0, 1, 3), row(1, 2, 3), row(0, 2, 5)), 0, 0, 1, 2);
+        due.row("through a gap of 0", solved(row(1, 4, 0), row(0, 2, 0), row(2, 1, 3)), 0, 2, 1);
     }
 
     private static TightDesk droppedShortCut() {
@@ -365,29 +293,29 @@ public final class PromiseTest {
     }
 
     private void promise10ChainTies() {
-        dueRow("the fewest tasks", solved(row(1, 1, 4), row(0, 1, 3), row(1, 2, 3), row(0, 2, 6)), 0, 0, 2);
-        dueRow("the first of the fewest", solved(row(1, 1, 1, 4), row(0, 2, 3), row(2, 3, 3), row(0, 1, 3), row(1, 3, 3)),
+        due.row("the fewest tasks", solved(row(1, 1, 4), row(0, 1, 3), row(1, 2, 3), row(0, 2, 6)), 0, 0, 2);
+        due.row("the first of the fewest", solved(row(1, 1, 1, 4), row(0, 2, 3), row(2, 3, 3), row(0, 1, 3), row(1, 3, 3)),
                 0, 0, 1, 3);
-        dueRow("the first task first", solved(row(1, 1, 4, 4), row(1, 2, 3), row(0, 3, 3)), 0, 0, 3);
-        dueRow("fewer ahead of the first", solved(row(1, 1, 4, 7), row(0, 1, 1), row(1, 2, 2)), 0, 3);
-        dueRow("all alike", solved(row(2, 2, 2)), 0, 0);
+        due.row("the first task first", solved(row(1, 1, 4, 4), row(1, 2, 3), row(0, 3, 3)), 0, 0, 3);
+        due.row("fewer ahead of the first", solved(row(1, 1, 4, 7), row(0, 1, 1), row(1, 2, 2)), 0, 3);
+        due.row("all alike", solved(row(2, 2, 2)), 0, 0);
     }
 
     private void promise10NoChain() {
-        dueRow("no tasks", solved(row()), 0);
-        dueRow("the origin alone", solved(row(2), row(-1, 0, 3)), 0);
-        dueRow("the origin ahead of two", solved(row(2, 2), row(-1, 0, 3), row(0, 1, 2)), 0);
-        dueRow("a gap of 0 from the origin", solved(row(2), row(-1, 0, 0)), 0, 0);
+        due.row("no tasks", solved(row()), 0);
+        due.row("the origin alone", solved(row(2), row(-1, 0, 3)), 0);
+        due.row("the origin ahead of two", solved(row(2, 2), row(-1, 0, 3), row(0, 1, 2)), 0);
+        due.row("a gap of 0 from the origin", solved(row(2), row(-1, 0, 0)), 0, 0);
     }
 
     private void promise10Circle() {
-        dueRow("a task to itself", solved(row(1, 1), row(0, 1, 5), row(1, 1, 1)), 1, 1);
-        dueRow("ahead of the beginning", solved(row(1, 1), row(1, -1, 2)), 1, 0, 201);
-        dueRow("wherever it is begun", solved(row(1, 1, 1), row(2, 0, 1), row(1, 2, 1), row(0, 1, -1)), 1, 0, 2, 1);
-        dueRow("through the origin", solved(row(1, 1), row(0, 1, 4), row(1, -1, -6), row(-1, 0, 3)), 1, 0, 1, 2);
-        dueRow("not by the bound if that is kept", solved(row(1, 1), row(0, 1, 4), row(1, -1, -4), row(-1, 0, 1)),
+        due.row("a task to itself", solved(row(1, 1), row(0, 1, 5), row(1, 1, 1)), 1, 1);
+        due.row("ahead of the beginning", solved(row(1, 1), row(1, -1, 2)), 1, 0, 201);
+        due.row("wherever it is begun", solved(row(1, 1, 1), row(2, 0, 1), row(1, 2, 1), row(0, 1, -1)), 1, 0, 2, 1);
+        due.row("through the origin", solved(row(1, 1), row(0, 1, 4), row(1, -1, -6), row(-1, 0, 3)), 1, 0, 1, 2);
+        due.row("not by the bound if that is kept", solved(row(1, 1), row(0, 1, 4), row(1, -1, -4), row(-1, 0, 1)),
                 1, 0, 1, 2);
-        dueRow("not by a dropped one", circleAfterDrop(), 1, 0, 2);
+        due.row("not by a dropped one", circleAfterDrop(), 1, 0, 2);
     }
 
     private static TightDesk circleAfterDrop() {
@@ -398,14 +326,14 @@ public final class PromiseTest {
     }
 
     private void promise10CircleTies() {
-        dueRow("the fewest", solved(row(1, 1, 1), row(0, 1, 9), row(1, 2, 9), row(2, 0, 9), row(1, 0, -8)), 1, 0, 3);
-        dueRow("the first of the fewest", solved(row(1, 1, 1, 1), row(2, 3, 1), row(0, 1, 1), row(1, 0, 0), row(3, 2, 0)),
+        due.row("the fewest", solved(row(1, 1, 1), row(0, 1, 9), row(1, 2, 9), row(2, 0, 9), row(1, 0, -8)), 1, 0, 3);
+        due.row("the first of the fewest", solved(row(1, 1, 1, 1), row(2, 3, 1), row(0, 1, 1), row(1, 0, 0), row(3, 2, 0)),
                 1, 0, 3);
-        dueRow("the least of alike ones", solved(row(1, 1), row(0, 1, 0), row(0, 1, 2), row(1, 0, 0), row(1, 0, 1)),
+        due.row("the least of alike ones", solved(row(1, 1), row(0, 1, 0), row(0, 1, 2), row(1, 0, 0), row(1, 0, 1)),
                 1, 0, 3);
-        dueRow("not the least if that is kept", solved(row(1, 1), row(0, 1, -2), row(1, 0, 1), row(0, 1, 3)), 1, 1, 2);
-        dueRow("a bound goes behind constraints", solved(row(1, 1), row(1, -1, 1), row(-1, 1, 0)), 1, 0, 1);
-        dueRow("the least bound", solved(row(1, 1), row(1, 0, 0), row(0, 1, 0), row(0, -1, 1), row(1, -1, 1)), 1, 2, 200);
+        due.row("not the least if that is kept", solved(row(1, 1), row(0, 1, -2), row(1, 0, 1), row(0, 1, 3)), 1, 1, 2);
+        due.row("a bound goes behind constraints", solved(row(1, 1), row(1, -1, 1), row(-1, 1, 0)), 1, 0, 1);
+        due.row("the least bound", solved(row(1, 1), row(1, 0, 0), row(0, 1, 0), row(0, -1, 1), row(1, -1, 1)), 1, 2, 200);
     }
 
     private void promise10LongestCircle() {
@@ -421,7 +349,7 @@ public final class PromiseTest {
         numbers[30] = 200;
         due.is("longest circle: solve()", desk.solve(), 1);
         // Only the whole way round keeps task 0's gap of 30 ahead of all others together.
-        dueRow("longest circle", desk, 1, numbers);
+        due.row("longest circle", desk, 1, numbers);
     }
 
     private void promise10Refusals() {
@@ -519,9 +447,9 @@ public final class PromiseTest {
         due.is("assign(0), stale", apart.assign(0), STALE);
         apart.solve();
         due.is("assign(0), the first one", apart.assign(0), 1);
-        dueWorkers("at 0", apart, 0, NONE);
+        due.workers("at 0", apart, 0, NONE);
         due.is("assign(5), the second one", apart.assign(5), 1);
-        dueWorkers("at 5", apart, NONE, 0);
+        due.workers("at 5", apart, NONE, 0);
         apart.constrain(0, 0, 1);
         apart.solve();
         due.is("assign(0) with a circle", apart.assign(0), STALE);
@@ -530,23 +458,23 @@ public final class PromiseTest {
     private void promise14FirstMatch() {
         TightDesk way = crew(3, row(0, 1), row(0), row(1, 2));
         due.is("each gives way: assign(0)", way.assign(0), 3);
-        dueWorkers("each gives way", way, 1, 0, 2);
+        due.workers("each gives way", way, 1, 0, 2);
         TightDesk least = crew(3, row(2, 1), row(2, 1), row(0));
         due.is("the least: assign(0)", least.assign(0), 3);
-        dueWorkers("the least", least, 1, 2, 0);
+        due.workers("the least", least, 1, 2, 0);
         // Task 0 with its least worker leaves task 1 without one, but there are as many pairs.
         TightDesk left = crew(2, row(0, 1), row(0), row(1));
         due.is("one is left out: assign(0)", left.assign(0), 2);
-        dueWorkers("one is left out", left, 0, NONE, 1);
+        due.workers("one is left out", left, 0, NONE, 1);
         TightDesk many = crew(1, row(0), row(0), row(0));
         due.is("the first has it: assign(0)", many.assign(0), 1);
-        dueWorkers("the first has it", many, 0, NONE, NONE);
+        due.workers("the first has it", many, 0, NONE, NONE);
         TightDesk pairs = crew(2, row(1), row(0, 1));
         due.is("more pairs ahead of less: assign(0)", pairs.assign(0), 2);
-        dueWorkers("more pairs ahead of less", pairs, 1, 0);
+        due.workers("more pairs ahead of less", pairs, 1, 0);
         TightDesk late = crew(4, row(1, 2), row(1, 3), row(0, 1), row(), row(0), row(0, 3));
         due.is("a later one gives way: assign(0)", late.assign(0), 4);
-        dueWorkers("a later one gives way", late, 2, 1, 0, NONE, NONE, 3);
+        due.workers("a later one gives way", late, 2, 1, 0, NONE, NONE, 3);
     }
 
     /** 30 tasks and 16 workers; of the tasks t and t + 1 can be done by worker t, but for the last ones. */
@@ -583,7 +511,7 @@ public final class PromiseTest {
         due.is("workerOf(0) without a match", desk.workerOf(0), STALE);
         due.is("workerOf(9) without a match", desk.workerOf(9), STALE);
         desk.assign(0);
-        dueWorkers("a match", desk, 1, NONE, NONE);
+        due.workers("a match", desk, 1, NONE, NONE);
         for (int wrong : row(-1, 2, 29, 30, LEAST, MOST)) {
             due.is("workerOf(" + wrong + ")", desk.workerOf(wrong), NONE);
         }
@@ -612,22 +540,22 @@ public final class PromiseTest {
         due.is("cover(2, 0) without a match", desk.cover(2, 0), STALE);
         due.is("cover(0, 9) without a match", desk.cover(0, 9), STALE);
         desk.assign(0);
-        dueCover("tasks", desk, 0, 1, 0, 0, 1, 0, NONE);
-        dueCover("workers", desk, 1, 1, 0, 0, 0, NONE);
+        due.cover("tasks", desk, 0, 1, 0, 0, 1, 0, NONE);
+        due.cover("workers", desk, 1, 1, 0, 0, 0, NONE);
         due.is("count(9)", desk.count(9), 3);
         int[][] wrong = {{2, 0}, {-1, 0}, {0, -1}, {1, -1}, {0, 30}, {1, 16}, {0, LEAST}, {1, MOST}, {LEAST, 0}, {0, 32}};
         for (int[] c : wrong) {
             due.is("cover(" + c[0] + ", " + c[1] + ")", desk.cover(c[0], c[1]), NONE);
         }
         desk.assign(5);
-        dueCover("none runs: tasks", desk, 0, 0, 0, 0, 0, 0, NONE);
-        dueCover("none runs: workers", desk, 1, 0, 0, 0, 0, NONE);
+        due.cover("none runs: tasks", desk, 0, 0, 0, 0, 0, 0, NONE);
+        due.cover("none runs: workers", desk, 1, 0, 0, 0, 0, NONE);
         desk.worker();
         due.is("cover(0, 0) after worker()", desk.cover(0, 0), STALE);
         TightDesk all = crew(2, row(0, 1), row(0, 1));
         all.assign(0);
-        dueCover("each has one: tasks", all, 0, 1, 1);
-        dueCover("each has one: workers", all, 1, 0, 0);
+        due.cover("each has one: tasks", all, 0, 1, 1);
+        due.cover("each has one: workers", all, 1, 0, 0);
     }
 
     private void promise17Times() {
@@ -669,7 +597,7 @@ public final class PromiseTest {
         desk.drop(1);
         due.is("check(1), one of it dropped", desk.check(1), 0);
         due.is("solve()", desk.solve(), 1);
-        dueRow("the next circle, with a bound", desk, 1, 0, 2, 200);
+        due.row("the next circle, with a bound", desk, 1, 0, 2, 200);
         due.is("check(1), with a bound", desk.check(1), 1);
         desk.drop(2);
         due.is("check(1), the bound alone is left", desk.check(1), 0);
@@ -806,7 +734,7 @@ public final class PromiseTest {
         due.is("full: count(1)", desk.count(1), 120);
         due.is("full: solve()", desk.solve(), 0);
         due.is("full: length()", desk.length(), 30000);
-        dueRow("full", desk, 0, tasks);
+        due.row("full", desk, 0, tasks);
         due.is("full: start(29, 0)", desk.start(29, 0), 29000);
         due.is("full: start(28, 3)", desk.start(28, 3), 0);
         due.is("full: start(29, 1)", desk.start(29, 1), 29000);
@@ -832,7 +760,7 @@ public final class PromiseTest {
             numbers[i] = i < 28 ? i : 119;
         }
         due.is("full circle: solve()", desk.solve(), 1);
-        dueRow("full circle", desk, 1, numbers);
+        due.row("full circle", desk, 1, numbers);
         due.is("full circle: check(1)", desk.check(1), 1);
         due.is("full circle: drop(119)", desk.drop(119), true);
         due.is("full circle: check(1) after drop(119)", desk.check(1), 0);
