@@ -203,6 +203,12 @@ public final class CrewEdgeTest extends Edges {
         due.is("with a bound", bound.check(1), 1);
         bound.drop(1);
         due.is("the bound and one more are left", bound.check(1), 0);
+        TightDesk shorter = solved(row(1, 1), row(0, 1, 5), row(1, 0, -4));
+        shorter.constrain(0, 0, 1);
+        shorter.solve();
+        due.row("one alone", shorter, 1, 2);
+        shorter.drop(1);
+        due.is("one of the circle before dropped", shorter.check(1), 1);
         TightDesk more = withCircle();
         more.constrain(0, 0, 2);
         due.is("another circle beside it", more.check(1), 1);
@@ -312,6 +318,11 @@ public final class CrewEdgeTest extends Edges {
         due.is("workers without it", last.check(2), 1);
         last.skill(0, 15);
         due.is("of the last worker, who is new", last.check(2), 0);
+        TightDesk full = crew(1, new int[30][0]);
+        full.assign(0);
+        due.is("30 tasks", full.check(2), 1);
+        full.skill(29, 0);
+        due.is("of the last task", full.check(2), 0);
     }
 
     @Sentence("NONE: no such ANSWERS are kept")

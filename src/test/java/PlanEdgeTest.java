@@ -190,7 +190,7 @@ public final class PlanEdgeTest extends Edges {
         due.is("of duration 0", solved(row(0)).delay(0, 1000), 1000);
     }
 
-    @Sentence("if a TASK started by later than its EARLIEST, at the least")
+    @Sentence("if a TASK started by (0 .. 1000) later than its EARLIEST, at the least")
     void promise11TheLastOfALongRow() {
         TightDesk desk = fullOfTasks(1000);
         for (int t = 29; t > 0; t--) {
@@ -285,11 +285,12 @@ public final class PlanEdgeTest extends Edges {
         due.is("stale: busy(0)", desk.busy(0), STALE);
     }
 
-    @Sentence("The first time at which most TASKS are RUNNING (what 0 ..), how many (1).")
+    @Sentence("The first time at which most TASKS are RUNNING .. how many (1)")
     void promise13FirstTime() {
         peak("at 0", solved(row(1, 1)), 0, 2);
         peak("all of them", solvedFull(), 0, 30);
-        peak("the first of two times", solved(row(1, 1, 1, 1), row(-1, 0, 8), row(-1, 1, 8), row(-1, 2, 5), row(-1, 3, 5)), 5, 2);
+        peak("the first of two times", solved(row(1, 1, 1, 1), row(-1, 0, 8), row(-1, 1, 8), row(-1, 2, 5),
+                row(-1, 3, 5)), 5, 2);
         peak("one ends as another starts", solved(row(3, 3), row(-1, 1, 3)), 0, 1);
         peak("one ends after another starts", solved(row(3, 3), row(-1, 1, 2)), 2, 2);
         peak("one of duration 0 is none", solved(row(0, 1), row(-1, 1, 4)), 4, 1);

@@ -86,6 +86,7 @@ public final class TermsEdgeTest extends Edges {
         TightDesk zero = solved(row(1), row(0, -1, 0));
         due.starts("at 0 alone", zero, 1, 0);
         due.is("at 0 alone: count(5)", zero.count(5), 0);
+        due.row("0 is no circle", solved(row(1, 1, 1), row(0, -1, 0), row(1, 2, 1), row(2, 1, 0)), 1, 1, 2);
     }
 
     @Sentence("CONSTRAINTS have numbers 0 .. 119, as they come")
@@ -108,6 +109,60 @@ public final class TermsEdgeTest extends Edges {
         due.is("length() without the first", desk.length(), 2);
     }
 
+    @Sentence("CONSTRAINTS have numbers 0 .. 119")
+    void startsOfAFullDesk() {
+        TightDesk desk = fullOfTasks(1000);
+        for (int c = 0; c < 91; c++) {
+            desk.constrain(0, 0, 0);
+        }
+        for (int t = 0; t < 29; t++) {
+            desk.constrain(t, t + 1, 1000);
+        }
+        due.is("count(1)", desk.count(1), 120);
+        due.is("solve()", desk.solve(), 0);
+        for (int t = 0; t < 30; t++) {
+            due.is("start(" + t + ", 0)", desk.start(t, 0), t * 1000);
+            due.is("start(" + t + ", 1)", desk.start(t, 1), t * 1000);
+            due.is("start(" + t + ", 2)", desk.start(t, 2), 0);
+            due.is("start(" + t + ", 3)", desk.start(t, 3), 0);
+            due.is("row(0, " + t + ")", desk.row(0, t), t);
+            due.is("delay(" + t + ", 1)", desk.delay(t, 1), 30001);
+        }
+        due.is("peak(0)", desk.peak(0), 0);
+        due.is("peak(1)", desk.peak(1), 1);
+        due.is("busy(29999)", desk.busy(29999), 1);
+        due.is("assign(29999)", desk.assign(29999), 0);
+        due.is("check(0)", desk.check(0), 1);
+        due.is("check(2)", desk.check(2), 1);
+        desk.drop(119);
+        due.is("check(0) without 119", desk.check(0), 0);
+        due.is("check(2) without 119", desk.check(2), 0);
+    }
+
+    @Sentence("CONSTRAINTS have numbers 0 .. 119")
+    void circleOfAFullDesk() {
+        TightDesk desk = fullOfTasks(1000);
+        int[] numbers = new int[30];
+        for (int c = 0; c < 90; c++) {
+            desk.constrain(0, 0, 0);
+        }
+        for (int t = 0; t < 29; t++) {
+            numbers[t] = desk.constrain(t, t + 1, 1);
+        }
+        numbers[29] = desk.constrain(29, 0, -28);
+        due.is("count(1)", desk.count(1), 120);
+        due.is("solve()", desk.solve(), 1);
+        due.row("90 .. 119", desk, 1, numbers);
+        due.is("check(1)", desk.check(1), 1);
+        desk.drop(0);
+        due.is("check(1) without 0", desk.check(1), 1);
+        due.is("solve() without 0", desk.solve(), 1);
+        due.row("90 .. 119 without 0", desk, 1, numbers);
+        desk.drop(119);
+        due.is("check(1) without 119", desk.check(1), 0);
+        due.is("solve() without 119", desk.solve(), 0);
+    }
+
     @Sentence("dropped ones keep theirs, and count no more")
     void droppedOnes() {
         // The dropped 1 would make task 1 later, the dropped 3 task 0 earlier, the dropped 4 a circle.
@@ -127,6 +182,10 @@ public final class TermsEdgeTest extends Edges {
         desk.constrain(0, 1, 7);
         desk.solve();
         due.row("the circle has numbers as they were told", desk, 1, 2, 200, 6);
+        desk.constrain(0, 1, 8);
+        desk.drop(6);
+        desk.solve();
+        due.row("the next circle is without the dropped one", desk, 1, 2, 200, 7);
         TightDesk chain = told(row(1, 1, 5), row(0, 2, 4), row(0, 1, 2), row(1, 2, 2));
         chain.drop(0);
         chain.solve();
@@ -160,7 +219,8 @@ public final class TermsEdgeTest extends Edges {
         due.is("-3: delay(0, 3)", three.delay(0, 3), 10);
         due.is("-3: delay(0, 4)", three.delay(0, 4), 11);
         due.starts("-1000", solved(row(1, 1, 1), row(-1, 2, 1), row(2, 0, 1000), row(0, 1, -1000)), 0, 1001, 1, 1);
-        due.starts("-1000 to the origin", solved(row(0, 1000, 1), row(0, -1, -1000), row(2, -1, -999)), 1, 1000, 0, 999);
+        due.starts("-1000 to the origin", solved(row(0, 1000, 1), row(0, -1, -1000), row(2, -1, -999)),
+                1, 1000, 0, 999);
     }
 
     @Sentence("STARTS: a whole number for each TASK, such that all BOUNDS and CONSTRAINTS are kept")
@@ -247,7 +307,8 @@ public final class TermsEdgeTest extends Edges {
 
     @Sentence("FIRST of rows of as many numbers is the one with the least number where they differ for the first time")
     void firstOfRows() {
-        TightDesk chains = solved(row(1, 1, 1, 1, 5), row(0, 2, 1), row(2, 4, 4), row(0, 3, 1), row(3, 4, 4), row(1, 2, 1));
+        TightDesk chains = solved(row(1, 1, 1, 1, 5), row(0, 2, 1), row(2, 4, 4), row(0, 3, 1), row(3, 4, 4),
+                row(1, 2, 1));
         due.row("0 2 4 ahead of 0 3 4 and 1 2 4", chains, 0, 0, 2, 4);
         TightDesk circles = solved(row(1, 1), row(0, 1, 5), row(1, 0, -5), row(1, 0, -4), row(1, 0, -3));
         due.row("0 2 ahead of 0 3", circles, 1, 0, 2);
@@ -285,6 +346,9 @@ public final class TermsEdgeTest extends Edges {
         due.is("solve()", desk.solve(), 1);
         due.row("31 numbers", desk, 1, numbers);
         due.is("row(1, 31)", desk.row(1, 31), NONE);
+        due.is("check(1)", desk.check(1), 1);
+        desk.drop(29);
+        due.is("check(1) without the last constraint", desk.check(1), 0);
     }
 
     @Sentence("the GAPS above 0 together")
@@ -299,11 +363,15 @@ public final class TermsEdgeTest extends Edges {
     @Sentence("of those with the fewest the FIRST, wherever it is begun")
     void circleOfTheFewest() {
         due.row("one ahead of two", solved(row(1, 1), row(0, 1, 9), row(1, 0, 9), row(1, 1, 1)), 1, 2);
-        due.row("two ahead of three", solved(row(1, 1, 1), row(0, 1, 9), row(1, 2, 9), row(2, 0, 9), row(2, 1, -8)), 1, 1, 3);
+        due.row("two ahead of three", solved(row(1, 1, 1), row(0, 1, 9), row(1, 2, 9), row(2, 0, 9), row(2, 1, -8)),
+                1, 1, 3);
         due.row("the least of ones", solved(row(1, 1), row(1, 1, 1), row(0, 0, 1)), 1, 0);
         due.row("begun by its least", solved(row(1, 1, 1), row(1, 2, 1), row(0, 1, 1), row(2, 0, 1)), 1, 0, 2, 1);
         due.row("begun by a constraint to the origin", solved(row(1), row(0, -1, 1)), 1, 0, 200);
-        due.row("the second one decides", solved(row(1, 1), row(0, 1, 2), row(1, 0, -2), row(1, 0, 0), row(1, 0, 1)), 1, 0, 2);
+        due.row("a lesser one with 0 together is no circle", solved(row(1, 1, 1, 1), row(0, 1, 1), row(2, 3, 1),
+                row(3, 2, 0), row(0, 1, 2), row(1, 0, -1)), 1, 1, 2);
+        due.row("the second one decides", solved(row(1, 1), row(0, 1, 2), row(1, 0, -2), row(1, 0, 0), row(1, 0, 1)),
+                1, 0, 2);
         due.row("a bound, if it is the least", solved(row(1), row(-1, 0, -5), row(0, -1, 1)), 1, 1, 200);
     }
 
@@ -398,6 +466,8 @@ public final class TermsEdgeTest extends Edges {
     void pairs() {
         due.workers("no worker", assigned(0, row()), NONE);
         due.workers("no skill", assigned(1, row()), NONE);
+        lastWorkers("the last task alone", lastTasks(row(15)), 15);
+        due.is("the last task alone: assign(4)", lastTasks(row(15)).assign(4), 1);
         due.workers("two for one worker", assigned(1, row(0), row(0)), 0, NONE);
         due.workers("two workers for one", assigned(2, row(0, 1)), 0);
         due.workers("more pairs go ahead", assigned(2, row(0, 1), row(0)), 1, 0);
@@ -410,6 +480,26 @@ public final class TermsEdgeTest extends Edges {
         due.workers("one has ended", later, 0, NONE);
         later.assign(6);
         due.workers("both have ended", later, NONE, NONE);
+        int[][] skills = new int[16][];
+        for (int t = 0; t < 16; t++) {
+            skills[t] = t < 15 ? row(t, t + 1) : row(0);
+        }
+        due.workers("all give way to the last", assigned(16, skills),
+                1, 2, 3, 4, 5, 6, 7, 8, 9, 10, 11, 12, 13, 14, 15, 0);
+    }
+
+    /** 30 tasks that run and 16 workers; one row for each of the last tasks, the others have no skills. */
+    private static TightDesk lastTasks(int[]... skills) {
+        int[][] all = new int[30][0];
+        System.arraycopy(skills, 0, all, 30 - skills.length, skills.length);
+        return assigned(16, all);
+    }
+
+    private void lastWorkers(String name, TightDesk desk, int... workers) {
+        for (int i = 0; i < workers.length; i++) {
+            int task = 30 - workers.length + i;
+            due.is(name + ": workerOf(" + task + ")", desk.workerOf(task), workers[i]);
+        }
     }
 
     @Sentence("that whose row (of each RUNNING TASK, in order, its WORKER, 16 without one) is the FIRST")
@@ -420,6 +510,19 @@ public final class TermsEdgeTest extends Edges {
         due.workers("a lesser worker now ahead of one later", assigned(2, row(0, 1), row(0), row(1)), 0, NONE, 1);
         due.workers("none is last", assigned(1, row(), row(0), row(0)), NONE, 0, NONE);
         due.workers("one that can't have the least", assigned(3, row(2), row(1, 2), row(0, 1)), 2, 1, 0);
+    }
+
+    @Sentence("that whose row (of each RUNNING TASK, in order, its WORKER, 16 without one) is the FIRST")
+    void firstMatch() {
+        due.workers("the least for the first", assigned(3, row(0, 1, 2), row(0, 1, 2), row(0, 1)), 0, 2, 1);
+        due.workers("the last needs the least", assigned(3, row(0, 1, 2), row(0, 1, 2), row(0)), 1, 2, 0);
+        due.workers("the first has two", assigned(3, row(0, 1), row(0, 1, 2), row(0)), 1, 2, 0);
+        due.workers("a later one gives way", assigned(4, row(1, 2), row(1, 3), row(0, 1), row(), row(0), row(0, 3)),
+                2, 1, 0, NONE, NONE, 3);
+        lastWorkers("the last task's least", lastTasks(row(9, 10, 11, 13), row(9, 13, 14), row(11, 13), row(9, 11),
+                row(10, 11, 12)), 9, 14, 13, 11, 10);
+        lastWorkers("the last worker is the least", lastTasks(row(11, 12), row(11, 13, 15), row(11), row(13, 14),
+                row(13, 15), row(15), row(14)), 12, 11, NONE, 13, 15, NONE, 14);
     }
 
     @Sentence("THE COVER: the RUNNING TASKS that have a WORKER in each row of that many pairs")
