@@ -484,8 +484,12 @@ public final class TermsEdgeTest extends Edges {
         for (int t = 0; t < 16; t++) {
             skills[t] = t < 15 ? row(t, t + 1) : row(0);
         }
-        due.workers("all give way to the last", assigned(16, skills),
-                1, 2, 3, 4, 5, 6, 7, 8, 9, 10, 11, 12, 13, 14, 15, 0);
+        TightDesk all = assigned(16, skills);
+        due.workers("all give way to the last", all, 1, 2, 3, 4, 5, 6, 7, 8, 9, 10, 11, 12, 13, 14, 15, 0);
+        for (int i = 0; i < 16; i++) {
+            due.is("all have one: cover(0, " + i + ")", all.cover(0, i), 1);
+            due.is("all have one: cover(1, " + i + ")", all.cover(1, i), 0);
+        }
     }
 
     /** 30 tasks that run and 16 workers; one row for each of the last tasks, the others have no skills. */
