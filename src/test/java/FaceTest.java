@@ -24,15 +24,13 @@ public final class FaceTest {
         holdMethods(due);
         holdFields(due);
         holdConstructors(due);
+        holdClassesInside(due);
         due.end();
     }
 
     private static void holdMethods(Due due) {
         TreeSet<String> wanted = new TreeSet<>(Arrays.asList(METHODS));
-        TreeSet<String> names = new TreeSet<>();
-        for (String method : METHODS) {
-            names.add(method.substring(method.indexOf(' ') + 1, method.indexOf('(')));
-        }
+        TreeSet<String> names = publicNames();
         TreeSet<String> seen = new TreeSet<>();
         for (Method method : TightDesk.class.getDeclaredMethods()) {
             if (Modifier.isPrivate(method.getModifiers())) {
@@ -46,6 +44,14 @@ public final class FaceTest {
             due.is("has " + method, seen.contains(method), true);
         }
         due.is("methods", seen.size(), wanted.size());
+    }
+
+    private static TreeSet<String> publicNames() {
+        TreeSet<String> names = new TreeSet<>();
+        for (String method : METHODS) {
+            names.add(method.substring(method.indexOf(' ') + 1, method.indexOf('(')));
+        }
+        return names;
     }
 
     private static String written(Method method) {
@@ -75,5 +81,17 @@ public final class FaceTest {
         due.is("constructors", constructors.length, 1);
         due.is("its parameters", constructors[0].getParameterCount(), 0);
         due.is("it is public", Modifier.isPublic(constructors[0].getModifiers()), true);
+    }
+
+    private static void holdClassesInside(Due due) {
+        for (Class<?> inside : TightDesk.class.getDeclaredClasses()) {
+            String name = inside.getSimpleName();
+            due.is(name + " is static", Modifier.isStatic(inside.getModifiers()), true);
+            due.is(name + " is private", Modifier.isPrivate(inside.getModifiers()), true);
+            due.is(name + " has at most twenty fields", inside.getDeclaredFields().length <= 20, true);
+            for (Method method : inside.getDeclaredMethods()) {
+                due.is(name + "." + method.getName() + " bears a public name", publicNames().contains(method.getName()), false);
+            }
+        }
     }
 }

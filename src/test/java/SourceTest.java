@@ -22,6 +22,7 @@ public final class SourceTest {
         due.is("imports beside java.util.Arrays", count("\\bimport (?!java\\.util\\.Arrays;)", code), 0);
         due.is("classes inside that are not static", count("(?<!static final |public final )\\bclass \\w+ \\{", code), 0);
         due.is("at most twelve classes", count("\\bclass \\w+ \\{", code) <= 12, true);
+        holdNothingMade(due, code);
         holdParameters(due, code);
         holdMethodLengths(due, code);
         due.end();
@@ -38,6 +39,13 @@ public final class SourceTest {
             count++;
         }
         return count;
+    }
+
+    /** All is made by the constructor, that stands ahead of the first call, and with the fields inside. */
+    private static void holdNothingMade(Due due, String code) {
+        String calls = code.substring(code.indexOf("public int task("));
+        due.is("objects made by calls", count("\\bnew \\w+\\(", calls), 0);
+        due.is("arrays made by calls", count("(?m)^(?!.* final ).*\\bnew \\w+\\[", calls), 0);
     }
 
     private static void holdParameters(Due due, String code) {
